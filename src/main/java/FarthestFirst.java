@@ -34,7 +34,7 @@ public final class FarthestFirst {
             images[n] = new Village();
         }
         kept = new boolean[IMAGES];
-        well = new Well(now);
+        well = new Well();
         pad = new Pad();
     }
 
@@ -120,7 +120,7 @@ public final class FarthestFirst {
             return OUTSIDE;
         }
         well.run(now, now.comers);
-        return what == 0 ? well.begin[person] - now.minute[person] : well.end[person];
+        return what == 0 ? well.wait[person] : well.end[person];
     }
 
     public int all(int what) {
@@ -563,23 +563,19 @@ public final class FarthestFirst {
         final int[] order = new int[PEOPLE];
         final int[] begin = new int[PEOPLE];
         final int[] end = new int[PEOPLE];
+        final int[] wait = new int[PEOPLE];
         int turns;
         int worst;
         int sum;
         /** When the well is free again: after a run the end of the last one. */
         int time;
-        private Village village;
         private int comers;
         private int rest;
 
-        Well(Village first) {
-            village = first;
-        }
-
         void run(Village people, int set) {
-            start(people, set);
+            start(set);
             for (int turn = 0; turn < PEOPLE; turn++) {
-                if (serveNext() == NONE) {
+                if (serveNext(people) == NONE) {
                     break;
                 }
             }
@@ -587,9 +583,9 @@ public final class FarthestFirst {
 
         /** Whether all who come are served in the pad's row, on which each of them is told. */
         boolean keepsTo(Village people, Pad row) {
-            start(people, people.comers);
+            start(people.comers);
             for (int place = 0; place < row.count && place < PEOPLE; place++) {
-                if (serveNext() != row.personAt(place)) {
+                if (serveNext(people) != row.personAt(place)) {
                     return false;
                 }
             }
@@ -619,15 +615,14 @@ public final class FarthestFirst {
         /** Of those who wait longest the first by numbers. */
         int worstOff() {
             for (int person = 0; person < PEOPLE; person++) {
-                if ((comers >> person & 1) != 0 && begin[person] - village.minute[person] == worst) {
+                if ((comers >> person & 1) != 0 && wait[person] == worst) {
                     return person;
                 }
             }
             return NONE;
         }
 
-        private void start(Village people, int set) {
-            village = people;
+        private void start(int set) {
             comers = set;
             rest = set;
             turns = 0;
@@ -636,21 +631,21 @@ public final class FarthestFirst {
             time = 0;
         }
 
-        private int serveNext() {
+        private int serveNext(Village people) {
             if (rest == 0 || turns >= PEOPLE) {
                 return NONE;
             }
-            time = Math.max(time, village.firstComing(rest));
-            int next = village.nextAt(time, rest);
+            time = Math.max(time, people.firstComing(rest));
+            int next = people.nextAt(time, rest);
             if (next == NONE) {
                 return NONE;
             }
-            int wait = time - village.minute[next];
-            worst = Math.max(worst, wait);
-            sum += wait;
             begin[next] = time;
-            time += village.timeToDraw(next);
+            wait[next] = time - people.minute[next];
+            time += people.timeToDraw(next);
             end[next] = time;
+            worst = Math.max(worst, wait[next]);
+            sum += wait[next];
             order[turns] = next;
             turns++;
             rest &= ~(1 << next);

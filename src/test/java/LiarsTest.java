@@ -13,19 +13,8 @@ public final class LiarsTest {
         Due.finish();
     }
 
-    /** A draws 0 to 6, E 6 to 8, C 8 to 10, D 10 to 12, B 12 to 14. */
-    private static FarthestFirst five() {
-        FarthestFirst x = new FarthestFirst();
-        x.come(0, 10, 0, 3, false);
-        x.come(1, 5, 4, 1, false);
-        x.come(2, 5, 3, 1, false);
-        x.come(3, 5, 3, 1, false);
-        x.come(4, 6, 6, 1, false);
-        return x;
-    }
-
     private static void lied() {
-        FarthestFirst x = five();
+        FarthestFirst x = Due.five();
         String[] rows = {"AECDB", "AEBCD", "ABECD", "EACDB", "", "AECD", "AECDA", "AECDF", "AECDB!", "B"};
         int[] due = {31, 0, 2, 0, -5, -5, -5, -5, -5, -5};
         for (int i = 0; i < rows.length; i++) {
@@ -44,7 +33,7 @@ public final class LiarsTest {
     }
 
     private static void could() {
-        FarthestFirst x = five();
+        FarthestFirst x = Due.five();
         Due.say(x, "AECDB");
         int[][] due = {{0, 99}, {0, 5}, {5, 5}, {5, 5}, {6, 99}};
         for (int p = 0; p < 5; p++) {
@@ -70,6 +59,18 @@ public final class LiarsTest {
         }
         Due.say(x, "AECDBB");
         Due.is("a fault", x.could(0, 1), -5);
+        FarthestFirst ends = new FarthestFirst();
+        ends.come(0, 50, 0, 2, false);
+        ends.come(1, 98, 1, 1, false);
+        ends.come(2, 0, 2, 1, false);
+        Due.say(ends, "ACB");
+        Due.is("99 at least, against 98 and earlier", ends.could(2, 0), 99);
+        Due.is("99 at most", ends.could(2, 1), 99);
+        ends.wipe();
+        Due.say(ends, "ABC");
+        ends.come(1, 0, 1, 1, false);
+        Due.is("0 at least, behind 0 and earlier", ends.could(2, 0), 0);
+        Due.is("0 at most", ends.could(2, 1), 0);
     }
 
     private static void law() {
@@ -102,7 +103,7 @@ public final class LiarsTest {
     }
 
     private static void home() {
-        FarthestFirst x = five();
+        FarthestFirst x = Due.five();
         int[][] due = {{0, 6, 2}, {1, 99, 2}, {99, 99, 2}};
         for (int[] row : due) {
             Due.is("home for rent " + row[0], x.home(1, row[0], 0), row[1]);
@@ -147,7 +148,7 @@ public final class LiarsTest {
     }
 
     private static void stay() {
-        FarthestFirst x = five();
+        FarthestFirst x = Due.five();
         int[][] due = {{9999, 0}, {8, 0}, {7, 1}, {4, 3}, {0, 7}};
         for (int[] row : due) {
             Due.is("stay so that none waits over " + row[0], x.stay(row[0]), row[1]);

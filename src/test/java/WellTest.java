@@ -17,17 +17,6 @@ public final class WellTest {
         Due.finish();
     }
 
-    /** A draws 0 to 6, E 6 to 8, C 8 to 10, D 10 to 12, B 12 to 14. */
-    private static FarthestFirst five() {
-        FarthestFirst x = new FarthestFirst();
-        x.come(0, 10, 0, 3, false);
-        x.come(1, 5, 4, 1, false);
-        x.come(2, 5, 3, 1, false);
-        x.come(3, 5, 3, 1, false);
-        x.come(4, 6, 6, 1, false);
-        return x;
-    }
-
     private static void order(String when, FarthestFirst x, String row) {
         Due.is(when + ": how many", x.served(-1), row.length());
         for (int i = 0; i < row.length(); i++) {
@@ -36,7 +25,7 @@ public final class WellTest {
     }
 
     private static void served() {
-        FarthestFirst x = five();
+        FarthestFirst x = Due.five();
         order("who comes as the well is free, who came first, by numbers", x, "AECDB");
         for (int i : new int[] {5, 8, 40, MAX, -2, MIN}) {
             Due.is("served " + i, x.served(i), -6);
@@ -88,7 +77,7 @@ public final class WellTest {
     }
 
     private static void waits() {
-        FarthestFirst x = five();
+        FarthestFirst x = Due.five();
         int[] wait = {0, 8, 5, 7, 0};
         int[] end = {6, 14, 10, 12, 8};
         for (int p = 0; p < 5; p++) {
@@ -107,7 +96,7 @@ public final class WellTest {
     }
 
     private static void all() {
-        FarthestFirst x = five();
+        FarthestFirst x = Due.five();
         int[] due = {8, 1, 20, 14};
         for (int what = 0; what < 4; what++) {
             Due.is("all " + what, x.all(what), due[what]);
@@ -129,7 +118,7 @@ public final class WellTest {
     }
 
     private static void judge() {
-        FarthestFirst x = five();
+        FarthestFirst x = Due.five();
         String[] rows = {"", "A", "AECDB", "AECD", "B", "AEDCB", "AEDBC", "ACEDB", "AECBD"};
         int[] place = {-6, -6, -6, -6, 0, 2, 2, 1, 3};
         int[] who = {-6, -6, -6, -6, 0, 2, 2, 4, 3};
@@ -149,7 +138,7 @@ public final class WellTest {
     }
 
     private static void left() {
-        FarthestFirst x = five();
+        FarthestFirst x = Due.five();
         int[][] due = {{0, 0, 0, 0, 0, 0}, {2, 2, 0, 0, 0, 0}, {4, 3, 0, 0, 0, 1}, {6, 3, 0, 1, 1, 1}, {7, 3, 1, 1, 1, 1},
             {99, 3, 1, 1, 1, 1}};
         for (int[] row : due) {
@@ -163,7 +152,7 @@ public final class WellTest {
     }
 
     private static void best() {
-        FarthestFirst x = five();
+        FarthestFirst x = Due.five();
         int[][] due = {{0, 999, 12, 0}, {0, 11, 11, 1}, {0, 8, 8, 4}, {0, 7, 3, 5}, {4, 6, 6, 6}, {4, 4, 4, 8},
             {0, 0, 0, 8}, {999, 999, 999, 0}, {12, 13, 12, 0}};
         for (int[] row : due) {
@@ -180,7 +169,7 @@ public final class WellTest {
     }
 
     private static void walk() {
-        FarthestFirst x = five();
+        FarthestFirst x = Due.five();
         int[][] due = {{1, 1, 8}, {2, 1, 8}, {3, 1, 10}, {7, 0, 14}, {8, 0, 14}, {60, 0, 14}};
         for (int[] row : due) {
             Due.is("walk, later by " + row[0], x.walk(1, row[0], 0), row[1]);
@@ -213,7 +202,7 @@ public final class WellTest {
     }
 
     private static void claim() {
-        FarthestFirst x = five();
+        FarthestFirst x = Due.five();
         int[][] due = {{9999, 0}, {8, 0}, {7, 6}, {2, 6}, {1, -6}, {0, -6}};
         for (int[] row : due) {
             Due.is("claim to wait " + row[0], x.claim(1, row[0]), row[1]);
@@ -226,10 +215,17 @@ public final class WellTest {
         x.come(1, 5, 4, 1, true);
         x.set(3, 1);
         Due.is("halved: 12 counts as 6", x.claim(1, 7), 12);
+        FarthestFirst far = new FarthestFirst();
+        far.come(0, 0, 0, 2, false);
+        far.come(1, 98, 1, 1, false);
+        far.come(2, 0, 2, 1, false);
+        Due.is("99 miles, against 98 and earlier", far.claim(2, 2), 99);
+        far.come(1, 99, 1, 1, false);
+        Due.is("not by 99, against 99 and earlier", far.claim(2, 2), -6);
     }
 
     private static void refused() {
-        FarthestFirst x = five();
+        FarthestFirst x = Due.five();
         for (int p : new int[] {-1, 5, 8, 32, 33, MIN, MAX}) {
             Due.is("waits of " + p, x.waits(p, 0), -1);
             Due.is("waits of " + p + ", what 2", x.waits(p, 2), -1);

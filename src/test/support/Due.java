@@ -18,6 +18,17 @@ final class Due {
         is(what, is ? 1 : 0, 1);
     }
 
+    /** A draws 0 to 6, E 6 to 8, C 8 to 10, D 10 to 12, B 12 to 14. */
+    static FarthestFirst five() {
+        FarthestFirst x = new FarthestFirst();
+        x.come(0, 10, 0, 3, false);
+        x.come(1, 5, 4, 1, false);
+        x.come(2, 5, 3, 1, false);
+        x.come(3, 5, 3, 1, false);
+        x.come(4, 6, 6, 1, false);
+        return x;
+    }
+
     /** Says a row, a sign at a time. */
     static void say(FarthestFirst x, String row) {
         for (int i = 0; i < row.length(); i++) {
