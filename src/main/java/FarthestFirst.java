@@ -267,7 +267,7 @@ public final class FarthestFirst {
         int sum = well.sum;
         for (int law = 2; law < LAWS; law++) {
             runUnder(law);
-            if (well.worst < worst || well.worst == worst && well.sum < sum) {
+            if (better(well.worst, well.sum, worst, sum)) {
                 bestLaw = law;
                 worst = well.worst;
                 sum = well.sum;
@@ -320,7 +320,7 @@ public final class FarthestFirst {
             well.run(now, others);
             int worstOfBoth = Math.max(worstThere, well.worst);
             int sumOfBoth = sumThere + well.sum;
-            if (worstOfBoth < worst || worstOfBoth == worst && sumOfBoth < sum) {
+            if (better(worstOfBoth, sumOfBoth, worst, sum)) {
                 bestSet = set;
                 worst = worstOfBoth;
                 sum = sumOfBoth;
@@ -458,6 +458,11 @@ public final class FarthestFirst {
         return NONE;
     }
 
+    /** The worst off count first, all together only where these are alike. */
+    private static boolean better(int worst, int sum, int otherWorst, int otherSum) {
+        return worst < otherWorst || worst == otherWorst && sum < otherSum;
+    }
+
     /** A law is 4 times FAR, and STOOD. */
     private void runUnder(int law) {
         trial.change(Village.FAR, law / 4);
@@ -516,12 +521,13 @@ public final class FarthestFirst {
             return settings[DRAW] * pails[person];
         }
 
-        /** The first minute at which one of the set has come; the set is not empty. */
+        /** The first minute at which one of the set has come; NONE: nobody is in it. */
         int firstComing(int set) {
-            int first = Integer.MAX_VALUE;
+            int first = NONE;
             for (int person = 0; person < PEOPLE; person++) {
-                if ((set >> person & 1) != 0) {
-                    first = Math.min(first, minute[person]);
+                boolean among = (set >> person & 1) != 0;
+                if (among && (first == NONE || minute[person] < first)) {
+                    first = minute[person];
                 }
             }
             return first;

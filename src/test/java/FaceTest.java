@@ -6,6 +6,8 @@ import java.lang.reflect.Modifier;
 import java.nio.file.Files;
 import java.nio.file.Path;
 import java.util.TreeSet;
+import java.util.regex.Matcher;
+import java.util.regex.Pattern;
 
 /** The public face is the document's and no more; the source keeps to what can be seen of LANGUAGE.md by its text. */
 public final class FaceTest {
@@ -17,14 +19,18 @@ public final class FaceTest {
     };
     private static final String[] RULED_OUT = {
         "import ", "package ", "->", "::", "try", "catch", "throw ", "synchronized", "assert", "double", "float",
-        "Exact", "System.", "getClass", "hashCode", "\"",
+        "Exact", "System.", "getClass", "hashCode", "\"", "finally", "static {", "while (true)", "for (;;)",
     };
+    private static final Pattern OF_LIBRARY = Pattern.compile("\\b(Integer|Long|Math|Arrays)\\b(\\.\\w+\\()?");
 
     public static void main(String[] args) throws IOException {
         constants();
         constructors();
         methods();
+        classesInside();
         text();
+        library();
+        lengths();
         Due.finish();
     }
 
@@ -82,9 +88,61 @@ public final class FaceTest {
         Due.holds("private methods with a public name " + otherNames, otherNames.isEmpty());
     }
 
+    /** Rules 1, 2, 5 and 11. */
+    private static void classesInside() {
+        Class<?>[] inside = FarthestFirst.class.getDeclaredClasses();
+        Due.holds("some twelve classes at most, not " + inside.length, inside.length < 12);
+        for (Class<?> c : inside) {
+            Due.holds(c.getName() + " is static", Modifier.isStatic(c.getModifiers()));
+            Due.holds(c.getName() + " is neither public nor protected",
+                !Modifier.isPublic(c.getModifiers()) && !Modifier.isProtected(c.getModifiers()));
+            int fields = 0;
+            for (Field f : c.getDeclaredFields()) {
+                boolean isStatic = Modifier.isStatic(f.getModifiers());
+                fields += isStatic ? 0 : 1;
+                Due.holds(f + " is no static state", !isStatic || Modifier.isFinal(f.getModifiers()));
+            }
+            Due.holds(c.getName() + " has some twenty fields at most", fields <= 20);
+            for (Method m : c.getDeclaredMethods()) {
+                Due.holds(m + " takes seven at most", m.getParameterCount() <= 7);
+            }
+        }
+    }
+
+    private static String source() throws IOException {
+        return Files.readString(Path.of("src/main/java/FarthestFirst.java"));
+    }
+
+    private static String code() throws IOException {
+        return source().replaceAll("(?s)/\\*.*?\\*/", "").replaceAll("//[^\n]*", "");
+    }
+
+    /** Rule 4: the static functions of Integer, Long and Math; no other name of theirs is listed. */
+    private static void library() throws IOException {
+        Matcher use = OF_LIBRARY.matcher(code());
+        while (use.find()) {
+            Due.holds(use.group() + " is a function", use.group(2) != null);
+        }
+    }
+
+    /** Rule 11: methods stay short. One begins at a line that ends with ") {" and ends as far to the left. */
+    private static void lengths() throws IOException {
+        String[] lines = source().split("\n");
+        for (int from = 0; from < lines.length; from++) {
+            if (!lines[from].matches("( {4}| {8})(public|private|static|int|boolean|void)\\b.*\\) \\{")) {
+                continue;
+            }
+            int to = from;
+            while (!lines[to].equals(lines[from].replaceAll("\\S.*", "") + "}")) {
+                to++;
+            }
+            Due.holds("some sixty lines at most: " + lines[from], to - from < 60);
+        }
+    }
+
     private static void text() throws IOException {
-        String source = Files.readString(Path.of("src/main/java/FarthestFirst.java"));
-        String code = source.replaceAll("(?s)/\\*.*?\\*/", "").replaceAll("//[^\n]*", "");
+        String source = source();
+        String code = code();
         for (String word : RULED_OUT) {
             Due.holds("the source has no " + word, !code.contains(word));
         }

@@ -13,12 +13,14 @@ public final class LiarsEdgesTest {
         notBothNothing();
         threeAtMost();
         threeAtLeast();
+        worstBeforeSum();
         ofTheseSum();
         halvedAsItIs();
         firstHome();
         homeWithRent();
         wellsForNobody();
         wellsForWhoCome();
+        wellsByWorstBeforeSum();
         wellsBySum();
         wellsByLeastSet();
         nobodyMustStay();
@@ -190,6 +192,23 @@ public final class LiarsEdgesTest {
         law("stood 3", x, 1, 3, 14);
     }
 
+    private static void worstBeforeSum() {
+        Due.by("19: by which WORST is least");
+        FarthestFirst x = new FarthestFirst();
+        x.come(0, 0, 0, 2, false);
+        x.come(1, 0, 1, 2, false);
+        for (int p = 2; p < 6; p++) {
+            x.come(p, 1, 2 * p, 1, false);
+        }
+        // By miles alone B waits till 12, and nobody else waits; else it draws 4 to 8, and each behind it waits 4.
+        Due.is("B waits by miles", x.all(0), 11);
+        Due.is("and nobody else", x.all(2), 11);
+        law("4 at worst, though 19 in all and not 11", x, 0, 1, 4);
+        x.set(1, 0);
+        x.set(2, 1);
+        Due.is("by that law in all", x.all(2), 19);
+    }
+
     private static void ofTheseSum() {
         Due.by("19: of these SUM");
         FarthestFirst x = new FarthestFirst();
@@ -281,6 +300,17 @@ public final class LiarsEdgesTest {
         Due.by("22: who must not come (of those who come)");
         Due.is("one of B and D waits 18 or 20", x.stay(17), 2);
         Due.is("C, too, waits 17", x.stay(16), 2 + 4);
+    }
+
+    private static void wellsByWorstBeforeSum() {
+        Due.by("21: WORST of both is least");
+        FarthestFirst x = new FarthestFirst();
+        x.come(0, 0, 2, 1, false);
+        x.come(1, 0, 0, 3, false);
+        x.come(2, 0, 0, 4, false);
+        x.come(3, 0, 5, 4, false);
+        // B and C at one well: C alone waits, 6. A waits 4 behind B, and D 3 behind C.
+        wells("4 at worst, though 7 in all and not 6", x, 1 + 2, 4, 7);
     }
 
     private static void wellsBySum() {
