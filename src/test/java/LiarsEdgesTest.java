@@ -26,6 +26,8 @@ public final class LiarsEdgesTest {
         nobodyMustStay();
         fewestMustStay();
         leastSetMustStay();
+        liarsByTheLaw();
+        othersByTheLaw();
         Due.finish();
     }
 
@@ -378,5 +380,31 @@ public final class LiarsEdgesTest {
         x.come(6, 1, 0, 1, false);
         Due.is("two of three", x.stay(0), 2 + 16);
         Due.is("one of three", x.stay(2), 2);
+    }
+
+    private static void liarsByTheLaw() {
+        Due.by("17, 18: all others being as told, and the law");
+        FarthestFirst x = Due.three();
+        could(x, "ABC", 0, 0, 99);
+        could(x, "ABC", 1, 3, 99);
+        could(x, "ABC", 2, 0, 8);
+        Due.is("the order as it is", x.lied(), 7);
+        could(x, "ACB", 0, NONE, NONE);
+        could(x, "ACB", 1, 0, 2);
+        could(x, "ACB", 2, 9, 99);
+        Due.is("B or C", x.lied(), 2 + 4);
+    }
+
+    private static void othersByTheLaw() {
+        FarthestFirst x = Due.three();
+        Due.by("19: DRAW as it is");
+        law("8 minutes for B and C", x, 0, 1, 8);
+        Due.by("20 to 22: by the law");
+        home("C at 9 miles", x, 0, 9, 3);
+        Due.is("B at 3 miles", x.home(1, 0, 0), 3);
+        Due.is("wait of B", x.home(1, 0, 1), 8);
+        wells("A, or B and C", x, 1, 0, 0);
+        Due.is("nobody waits more than 8", x.stay(8), 0);
+        Due.is("without A nobody waits", x.stay(7), 1);
     }
 }

@@ -29,6 +29,8 @@ public final class WellEdgesTest {
         ninetyNineAtMost();
         leastMilesToClaim();
         notByNinetyNine();
+        whatIfsByTheLaw();
+        walksByTheLaw();
         Due.finish();
     }
 
@@ -460,5 +462,39 @@ public final class WellEdgesTest {
         x.set(1, 0);
         Due.is("miles do not count", x.claim(2, 2), NONE);
         Due.is("nor need they", x.claim(2, 4), 0);
+    }
+
+    private static void whatIfsByTheLaw() {
+        Due.by("13, 14, 16: others as they are, and the law");
+        FarthestFirst x = Due.three();
+        order("as it is", x, "ABC");
+        int[] left = {2, 1, 0};
+        for (int p = 0; p < 3; p++) {
+            Due.is("of 3 pails, " + p, x.left(3, p), left[p]);
+        }
+        int[][] best = {{2, 7, 10, 10, 5}, {1, 0, 2, 0, 0}, {1, 1, 5, 2, 8}, {1, 3, 9, 9, 6}};
+        for (int[] row : best) {
+            String span = row[0] + " from " + row[1] + " to " + row[2];
+            Due.is("minute of " + span, x.best(row[0], row[1], row[2], 0), row[3]);
+            Due.is("wait of " + span, x.best(row[0], row[1], row[2], 1), row[4]);
+        }
+        int[][] claim = {{2, 3, 9}, {2, 7, 9}, {2, 8, 0}, {2, 2, NONE}, {1, 8, 3}, {1, 12, 3}, {1, 13, 0}, {1, 7, NONE}};
+        for (int[] row : claim) {
+            Due.is("of " + row[0] + " to wait " + row[1], x.claim(row[0], row[1]), row[2]);
+        }
+    }
+
+    private static void walksByTheLaw() {
+        Due.by("15: others as they are, and the law");
+        FarthestFirst x = Due.three();
+        Due.is("a mile for a minute gains C nothing", x.walk(2, 1, 0), 0);
+        Due.is("its end", x.walk(2, 1, 1), 20);
+        x.set(1, 2);
+        order("19 of C against 14 of B", x, "ACB");
+        // At 7 from 8 miles B is as C, and first by numbers.
+        Due.is("a mile of B is worth two minutes", x.walk(1, 1, 0), 5);
+        Due.is("its end", x.walk(1, 1, 1), 15);
+        Due.is("not if it takes them", x.walk(1, 2, 0), 0);
+        Due.is("its end", x.walk(1, 2, 1), 20);
     }
 }

@@ -56,6 +56,17 @@ final class Due {
         return x;
     }
 
+    /** By a law of both: A draws 0 to 10, B 10 to 15 (at 10: 11 against 11, and B came first), C 15 to 20. */
+    static FarthestFirst three() {
+        FarthestFirst x = new FarthestFirst();
+        x.set(0, 5);
+        x.set(2, 1);
+        x.come(0, 0, 0, 2, false);
+        x.come(1, 3, 2, 1, false);
+        x.come(2, 8, 7, 1, false);
+        return x;
+    }
+
     /** All eight, at once: who is a number farther draws sooner, so the order is HGFEDCBA; each draws 2 minutes. */
     static FarthestFirst eight() {
         FarthestFirst x = new FarthestFirst();
